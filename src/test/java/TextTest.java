@@ -127,6 +127,9 @@ public final class TextTest {
         fault(";", 2, 0);
         fault("3;", 2, 0);
         fault("vertice 2;", 2, 0);
+        fault("wertices 2;", 2, 0);
+        fault("verticez 2;", 2, 0);
+        fault("vertices2a;", 2, 9);
         fault("vertices", 2, 8);
         fault("vertices ", 2, 9);
         fault("vertices;", 2, 8);
