@@ -6,8 +6,19 @@ final class Check {
 
     private static int right = 0;
     private static int wrong = 0;
+    private static String about = "";
 
     private Check() {
+    }
+
+    /** What the next checks are about: it stands before each of them that does not hold. */
+    static void about(String subject) {
+        about = subject.isEmpty() ? "" : subject + ": ";
+    }
+
+    /** The number of checks so far. */
+    static int made() {
+        return right + wrong;
     }
 
     static void is(String what, long got, long due) {
@@ -37,6 +48,17 @@ final class Check {
         note(got.equals(due.getName()), what, got, due.getName());
     }
 
+    /** The call throws nothing. */
+    static void passing(String what, Call call) {
+        String got = "nothing";
+        try {
+            call.run();
+        } catch (RuntimeException e) {
+            got = e.getClass().getName();
+        }
+        note(got.equals("nothing"), what + " throws", got, "nothing");
+    }
+
     private static void note(boolean holds, String what, String got, String due) {
         if (holds) {
             right++;
@@ -44,7 +66,7 @@ final class Check {
         }
         wrong++;
         if (wrong <= 50) {
-            System.out.println("WRONG " + what + ": got " + got + ", due is " + due);
+            System.out.println("WRONG " + about + what + ": got " + got + ", due is " + due);
         }
     }
 

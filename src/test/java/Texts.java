@@ -38,6 +38,33 @@ final class Texts {
         return x;
     }
 
+    /** A text for graphs that are told as write() tells them, as "0-0 0-1x3". */
+    static String text(int vertices, int mode, String graph, String target) {
+        StringBuilder text = new StringBuilder("vertices " + vertices + ";");
+        appendEdges(text, "edge", graph);
+        appendEdges(text, "target", target);
+        if (mode != 0) {
+            text.append("mode ").append(mode).append(';');
+        }
+        return text.toString();
+    }
+
+    private static void appendEdges(StringBuilder text, String statement, String edges) {
+        for (String edge : edges.isEmpty() ? new String[0] : edges.split(" ")) {
+            int left = edge.length() > 3 ? Integer.parseInt(edge.substring(4)) : 1;
+            while (left > 0) {
+                int times = Math.min(left, 9);
+                text.append(statement).append(edge.charAt(0)).append(' ').append(edge.charAt(2));
+                text.append(times > 1 ? " " + times : "").append(';');
+                left -= times;
+            }
+        }
+    }
+
+    static SwitchGraphs made(int vertices, int mode, String graph, String target) {
+        return of(text(vertices, mode, graph, target));
+    }
+
     static String graph(SwitchGraphs x) {
         return written(x, false);
     }
