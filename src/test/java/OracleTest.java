@@ -1,10 +1,7 @@
-import java.lang.reflect.InvocationTargetException;
 import java.lang.reflect.Method;
-import java.nio.charset.StandardCharsets;
 import java.util.ArrayList;
 import java.util.List;
 import java.util.Random;
-import java.util.TreeMap;
 
 /**
  * Runs of drawn calls, all methods of the class, on the program and on the oracle: each answer or
@@ -15,87 +12,59 @@ public final class OracleTest {
     private static final int CALLS = 500;
 
     private final Random random;
-    private final SwitchGraphs program = new SwitchGraphs();
-    private final Oracle oracle = new Oracle();
-    private final List<String> calls = new ArrayList<>();
-
-    private static final TreeMap<String, Method> METHODS = new TreeMap<>();
-    private static final TreeMap<String, Integer> ANSWERS = new TreeMap<>();
-    private static final TreeMap<String, Integer> THROWS = new TreeMap<>();
+    private final Both both = new Both();
+    private final SwitchGraphs program = both.program;
 
     private OracleTest(long seed) {
         random = new Random(seed);
     }
 
-    public static void main(String[] args) throws Exception {
-        for (Method method : SwitchGraphs.class.getDeclaredMethods()) {
-            if (java.lang.reflect.Modifier.isPublic(method.getModifiers())) {
-                METHODS.put(method.getName(), method);
-            }
-        }
+    public static void main(String[] args) {
         int runs = args.length > 0 ? Integer.parseInt(args[0]) : RUNS;
         long from = args.length > 1 ? Long.parseLong(args[1]) : 1;
         for (long seed = from; seed < from + runs && Check.allRight(); seed++) {
             new OracleTest(seed).run(seed);
         }
-        everyMethodAnswered();
+        Both.everyMethodAnswered();
         Check.end();
     }
 
-    /** The runs are worth nothing for a method that they hardly reach. */
-    private static void everyMethodAnswered() {
-        for (Method method : METHODS.values()) {
-            String name = method.getName();
-            Check.is("answers of " + name, ANSWERS.getOrDefault(name, 0) > 20, true);
-            if (method.getExceptionTypes().length > 0) {
-                Check.is("exceptions of " + name, THROWS.getOrDefault(name, 0) > 20, true);
-            }
-        }
-    }
-
-    private void run(long seed) throws Exception {
+    private void run(long seed) {
         // The texts come in calls of feed, so that a run keeps to its number of calls.
         loadText(drawText());
-        List<String> names = new ArrayList<>(METHODS.keySet());
+        List<String> names = new ArrayList<>(Both.METHODS.keySet());
         names.remove("feed");
         names.remove("load");
-        while (calls.size() < CALLS && Check.allRight()) {
+        while (both.calls().size() < CALLS && Check.allRight()) {
             int dice = random.nextInt(1000);
             if (dice < 25) {
                 loadText(drawText());
             } else if (dice < 30) {
-                compare("load", drawSmall(50));
+                both.compare("load", drawSmall(50));
             } else if (dice < 32) {
                 for (int k = 0; k < 21; k++) {
-                    compare("feed", random.nextInt(), random.nextInt(), random.nextInt(),
+                    both.compare("feed", random.nextInt(), random.nextInt(), random.nextInt(),
                             random.nextInt(), random.nextInt());
                 }
             } else {
                 String name = names.get(random.nextInt(names.size()));
-                compare(name, drawParameters(METHODS.get(name)));
+                both.compare(name, drawParameters(Both.METHODS.get(name)));
             }
         }
         if (!Check.allRight()) {
             System.out.println("seed " + seed + ":");
-            calls.forEach(System.out::println);
+            both.calls().forEach(System.out::println);
         }
     }
 
-    private void loadText(String text) throws Exception {
-        byte[] bytes = text.getBytes(StandardCharsets.ISO_8859_1);
-        for (int from = 0; from < bytes.length; from += 20) {
-            int[] words = new int[5];
-            for (int k = 0; k < 20; k++) {
-                int sign = from + k < bytes.length ? bytes[from + k] & 255 : ' ';
-                words[k / 4] = words[k / 4] << 8 | sign;
-            }
-            compare("feed", words);
-        }
-        compare("load", random.nextInt(20) == 0 ? random.nextInt(text.length() + 1) : text.length());
-        compare("errorKind");
-        compare("errorPosition");
-        compare("write", 0);
-        compare("write", 1);
+    private void loadText(String text) {
+        both.feed(text);
+        boolean whole = random.nextInt(20) > 0;
+        both.compare("load", whole ? text.length() : random.nextInt(text.length() + 1));
+        both.compare("errorKind");
+        both.compare("errorPosition");
+        both.compare("write", 0);
+        both.compare("write", 1);
     }
 
     // ---- drawing
@@ -253,45 +222,5 @@ public final class OracleTest {
             return random.nextBoolean() ? Integer.MIN_VALUE : Integer.MAX_VALUE;
         }
         return dice < 5 ? random.nextInt(most + 12) - 5 : random.nextInt(Math.max(1, most));
-    }
-
-    // ---- comparing
-
-    private void compare(String name, int... parameters) throws Exception {
-        if (name.equals("meanDegree")) {
-            Check.is(name, program.meanDegree(), oracle.meanDegree());
-            ANSWERS.merge(name, 1, Integer::sum);
-            calls.add(name);
-            return;
-        }
-        String due;
-        try {
-            due = String.valueOf(oracle.call(name, parameters));
-        } catch (RuntimeException e) {
-            due = e.getClass().getName();
-        }
-        String got = answer(METHODS.get(name), parameters);
-        boolean threw = got.startsWith("java");
-        (threw ? THROWS : ANSWERS).merge(name, 1, Integer::sum);
-        calls.add(name + java.util.Arrays.toString(parameters) + " = " + got);
-        Check.is(name + java.util.Arrays.toString(parameters), got, due);
-    }
-
-    private String answer(Method method, int[] parameters) throws Exception {
-        Class<?>[] types = method.getParameterTypes();
-        Object[] boxed = new Object[types.length];
-        for (int k = 0; k < types.length; k++) {
-            boxed[k] = types[k] == boolean.class ? (Object) (parameters[k] == 1) : parameters[k];
-        }
-        try {
-            Object answer = method.invoke(program, boxed);
-            if (answer instanceof Boolean) {
-                return (Boolean) answer ? "1" : "0";
-            }
-            return answer instanceof Character
-                    ? String.valueOf((int) (Character) answer) : String.valueOf(answer);
-        } catch (InvocationTargetException e) {
-            return e.getCause().getClass().getName();
-        }
     }
 }
